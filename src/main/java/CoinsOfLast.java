@@ -466,7 +466,7 @@ public final class CoinsOfLast {
         return v >= least && v <= most;
     }
 
-    private static int held(int v, int least, int most) {
+    private static int bounded(int v, int least, int most) {
         return Math.max(least, Math.min(most, v));
     }
 
@@ -586,11 +586,20 @@ public final class CoinsOfLast {
         for (int s = 0; s < coins.known; s++) {
             int worth = coins.worth[s];
             if (years.there && coins.held[s] > 0) {
-                worth = held(years.ofYears(worth, coins.land[s], coins.size[s], y), 0, KEPT_MOST);
+                worth = yearsWorth(s, y);
             }
             sum += coins.held[s] * worth;
         }
         return sum;
+    }
+
+    private int yearsWorth(int sort, int y) {
+        years.clearNames();
+        years.names[Text.W] = coins.worth[sort];
+        years.names[Text.L] = coins.land[sort];
+        years.names[Text.S] = coins.size[sort];
+        years.names[Text.Y] = y;
+        return bounded(years.worked(), 0, KEPT_MOST);
     }
 
     private int refusalAt(int shelf, int i) {
@@ -729,7 +738,7 @@ public final class CoinsOfLast {
             land[known] = inLand;
             price[known] = ofPrice;
             value[known] = ofValue;
-            many[known] = held(thereAre, 0, MANY_MOST);
+            many[known] = bounded(thereAre, 0, MANY_MOST);
             known++;
             return true;
         }
@@ -892,8 +901,9 @@ public final class CoinsOfLast {
 
     /** A text as it was read: numbers and names as they come, each sign behind what it works on. */
     private static final class Text {
-        private static final int FIRST_NAME = 10000, MINUS = 20000, WHOLE_LINE = 20001, CHOSEN_LINE = 20002;
-        private static final int FIRST_SIGN = 30000;
+        // Codes: a number for itself, then names, ends of lines, and signs (the one ahead of an O is NEGATED).
+        private static final int FIRST_NAME = 10000, WHOLE_LINE = 20000, CHOSEN_LINE = 20001, FIRST_SIGN = 30000;
+        private static final int NEGATED = 0;
         private static final int A = 0, B = 1, D = 2, W = 3, L = 4, S = 5, Y = 6;
 
         private final int[] code = new int[CODES_MOST];
@@ -924,24 +934,11 @@ public final class CoinsOfLast {
             there = true;
         }
 
-        int ofRate(int a, int b, int d) {
+        void clearNames() {
             Arrays.fill(names, 0);
-            names[A] = a;
-            names[B] = b;
-            names[D] = d;
-            return worked();
         }
 
-        int ofYears(int w, int l, int s, int y) {
-            Arrays.fill(names, 0);
-            names[W] = w;
-            names[L] = l;
-            names[S] = s;
-            names[Y] = y;
-            return worked();
-        }
-
-        private int worked() {
+        int worked() {
             int top = 0;
             for (int c = 0; c < codes && c < CODES_MOST; c++) {
                 int does = code[c];
@@ -956,33 +953,28 @@ public final class CoinsOfLast {
                     return does == WHOLE_LINE ? first : second;
                 }
                 if (does != CHOSEN_LINE) {
-                    stack[top] = result(does, first, second);
+                    stack[top] = does < FIRST_SIGN ? told(does) : joined(does - FIRST_SIGN, first, second);
                     top++;
                 }
             }
             return 0;
         }
 
-        private static int operandsOf(int does) {
-            if (does < MINUS) {
-                return 0;
-            }
-            return does == MINUS || does == WHOLE_LINE || does == FIRST_SIGN + '!' ? 1 : 2;
+        private int told(int does) {
+            int name = does - FIRST_NAME;
+            return name < 0 ? does : name < NAMES_MOST ? names[name] : 0;
         }
 
-        private int result(int does, int first, int second) {
-            if (does < FIRST_NAME) {
-                return does;
+        private static int operandsOf(int does) {
+            if (does < WHOLE_LINE) {
+                return 0;
             }
-            if (does < MINUS) {
-                int name = does - FIRST_NAME;
-                return name < NAMES_MOST ? names[name] : 0;
-            }
-            return does == MINUS ? -first : joined(does - FIRST_SIGN, first, second);
+            return does == WHOLE_LINE || does == FIRST_SIGN + NEGATED || does == FIRST_SIGN + '!' ? 1 : 2;
         }
 
         private static int joined(int sign, int first, int second) {
             switch (sign) {
+                case NEGATED: return -first;
                 case '!': return first == 0 ? 1 : 0;
                 case '|': return first != 0 || second != 0 ? 1 : 0;
                 case '&': return first != 0 && second != 0 ? 1 : 0;
@@ -1117,7 +1109,7 @@ public final class CoinsOfLast {
                 write(Text.FIRST_SIGN + '!');
             } else if (goesOnWith('-')) {
                 readOperand(open + 1);
-                write(Text.MINUS);
+                write(Text.FIRST_SIGN + Text.NEGATED);
             } else if (goesOnWith('(')) {
                 readJoined(OR, open + 1);
                 if (!goesOnWith(')')) {
@@ -1160,7 +1152,14 @@ public final class CoinsOfLast {
         }
 
         int rateOf(int a, int b, int day) {
-            return a == b || !rates.there ? THOUSAND : held(rates.ofRate(a, b, day), 1, RATE_MOST);
+            if (a == b || !rates.there) {
+                return THOUSAND;
+            }
+            rates.clearNames();
+            rates.names[Text.A] = a;
+            rates.names[Text.B] = b;
+            rates.names[Text.D] = day;
+            return bounded(rates.worked(), 1, RATE_MOST);
         }
 
         int exchanged(int x, int a, int b, int day) {
@@ -1168,9 +1167,9 @@ public final class CoinsOfLast {
         }
 
         int changed(int x, int a, int b, int day) {
-            int all = exchanged(x, a, b, day);
-            int shared = (int) (((long) all * share + 99) / 100);
-            return Math.max(0, all - shared - fee);
+            long all = (long) x * rateOf(a, b, day) / THOUSAND;
+            long shared = (all * share + 99) / 100;
+            return (int) Math.max(0L, all - shared - fee);
         }
 
         /** The best way from a to b, or the best round if they are one. */
@@ -1455,7 +1454,7 @@ public final class CoinsOfLast {
         void holdRow(int ofSort, int n) {
             holds = ROW;
             sort = ofSort;
-            size = held(n, 0, ROW_MOST);
+            size = bounded(n, 0, ROW_MOST);
             Arrays.fill(cells, 0L);
         }
 
