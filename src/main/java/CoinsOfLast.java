@@ -746,12 +746,14 @@ public final class CoinsOfLast {
 
     /** Finds out what can be paid, and with which coins. */
     private static final class Payer {
-        private static final int BITS = 64, WORDS = TOTAL_MOST / BITS + 1, NONE = -1;
+        private static final int BITS = 64, WORDS = TOTAL_MOST / BITS + 1, NONE = Integer.MIN_VALUE;
+        private static final int SORT_BITS = 3, SORT_MASK = 7, ONE_COIN = 1 << SORTS * SORT_BITS;
 
         // The bit of an amount tells whether it can be paid.
         private final long[] sums = new long[WORDS];
-        // best[s][a]: coins of the sorts from s on that come to a.
-        private final int[][] best = new int[SORTS + 1][TOTAL_MOST + 1];
+        // The best payment of each amount, as one number: how many coins (below 0 if few are best),
+        // then how many of each sort, the first one ahead; so the greatest number is the best payment.
+        private final int[] best = new int[TOTAL_MOST + 1];
         private final int[] choice = new int[TOTAL_MOST + 1];
         private final int[] used = new int[SORTS];
         private final int[] counts = new int[SORTS];
@@ -808,50 +810,38 @@ public final class CoinsOfLast {
             if (!within(amount, 0, TOTAL_MOST)) {
                 return NOT;
             }
-            Arrays.fill(best[coins.known], 0, amount + 1, NONE);
-            best[coins.known][0] = 0;
-            for (int s = coins.known - 1; s >= 0; s--) {
-                int number = coins.land[s] == land ? coins.held[s] : 0;
-                for (int a = 0; a <= amount; a++) {
-                    best[s][a] = bestFrom(best[s + 1], a, number, coins.worth[s], most);
-                }
-            }
-            return best[0][amount] == NONE ? NOT : follow(coins, land, amount);
-        }
-
-        private static int bestFrom(int[] next, int amount, int number, int worth, boolean most) {
-            int found = NONE;
-            for (int c = 0; c <= number && c * worth <= amount; c++) {
-                int rest = next[amount - c * worth];
-                if (rest == NONE) {
-                    continue;
-                }
-                if (found == NONE || (most ? rest + c > found : rest + c < found)) {
-                    found = rest + c;
-                }
-            }
-            return found;
-        }
-
-        private int follow(Coins coins, int land, int amount) {
-            int left = amount;
-            Arrays.fill(used, 0);
+            Arrays.fill(best, 0, amount + 1, NONE);
+            best[0] = 0;
             for (int s = 0; s < coins.known; s++) {
                 int number = coins.land[s] == land ? coins.held[s] : 0;
-                int c = mostThatKeeps(best[s][left], best[s + 1], left, number, coins.worth[s]);
-                used[s] = c;
-                left -= c * coins.worth[s];
-            }
-            return best[0][amount];
-        }
-
-        private static int mostThatKeeps(int due, int[] next, int left, int number, int worth) {
-            for (int c = number; c > 0; c--) {
-                if (c * worth <= left && next[left - c * worth] == due - c && c <= due) {
-                    return c;
+                int rank = (most ? ONE_COIN : -ONE_COIN) + (1 << placeOf(s));
+                for (int c = 0; c < number; c++) {
+                    payWithOneMore(coins.worth[s], rank, amount);
                 }
             }
-            return 0;
+            return best[amount] == NONE ? NOT : coinsOf(best[amount], coins.known);
+        }
+
+        private static int placeOf(int sort) {
+            return (SORTS - 1 - sort) * SORT_BITS;
+        }
+
+        private void payWithOneMore(int worth, int rank, int amount) {
+            for (int a = amount; a >= worth; a--) {
+                int rest = best[a - worth];
+                if (rest != NONE) {
+                    best[a] = Math.max(best[a], rest + rank);
+                }
+            }
+        }
+
+        private int coinsOf(int rank, int known) {
+            int number = 0;
+            for (int s = 0; s < SORTS; s++) {
+                used[s] = s < known ? rank >> placeOf(s) & SORT_MASK : 0;
+                number += used[s];
+            }
+            return number;
         }
 
         /** choice[p]: the greatest value of things whose prices come to p, or NONE. */
