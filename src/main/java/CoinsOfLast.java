@@ -7,7 +7,7 @@ public final class CoinsOfLast {
     private static final int NOTHING = -11, OTHER_KIND = -12, NO_PLACE = -13, BELOW_ZERO = -14;
 
     private static final int LANDS = 4, SORTS = 8, THINGS = 10, HELD_MOST = 6;
-    private static final int WORTH_MOST = 40, PRICE_MOST = 200, MANY_MOST = 9, HUNDRED_LESS = 99;
+    private static final int WORTH_MOST = 40, PRICE_MOST = 200, MANY_MOST = 9, TWO_DIGITS_MOST = 99;
     private static final int TOTAL_MOST = SORTS * HELD_MOST * WORTH_MOST;
     private static final int AMOUNT_PART = 10000, AMOUNT_MOST = 9999, DAY_MOST = 9999, YEAR_MOST = 60;
     private static final int THOUSAND = 1000, RATE_MOST = 9999, KEPT_MOST = 9999;
@@ -20,7 +20,7 @@ public final class CoinsOfLast {
 
     // What mend() may tell: WORTH, SIZE, WEIGHT, PRICE, VALUE.
     private static final int[] MEND_LEAST = {1, 0, 0, 1, 0};
-    private static final int[] MEND_MOST = {WORTH_MOST, HUNDRED_LESS, HUNDRED_LESS, PRICE_MOST, HUNDRED_LESS};
+    private static final int[] MEND_MOST = {WORTH_MOST, TWO_DIGITS_MOST, TWO_DIGITS_MOST, PRICE_MOST, TWO_DIGITS_MOST};
 
     private final Coins coins = new Coins();
     private final Things things = new Things();
@@ -95,7 +95,7 @@ public final class CoinsOfLast {
     }
 
     public int window(int what, int v) {
-        if (!within(what, 0, 1) || !within(v, 0, HUNDRED_LESS)) {
+        if (!within(what, 0, 1) || !within(v, 0, TWO_DIGITS_MOST)) {
             return BAD;
         }
         return what == 0 ? office.tellShare(v) : office.tellFee(v);
@@ -210,11 +210,11 @@ public final class CoinsOfLast {
     }
 
     public int like(int sort, int g) {
-        return coins.knows(sort) && within(g, 0, HUNDRED_LESS) ? coins.alike(sort, g) : BAD;
+        return coins.knows(sort) && within(g, 0, TWO_DIGITS_MOST) ? coins.alike(sort, g) : BAD;
     }
 
     public int standIn(int sort, int g, int day, int what) {
-        if (!coins.knows(sort) || !within(g, 0, HUNDRED_LESS) || !isDay(day) || !within(what, 0, 1)) {
+        if (!coins.knows(sort) || !within(g, 0, TWO_DIGITS_MOST) || !isDay(day) || !within(what, 0, 1)) {
             return VOID;
         }
         int bits = coins.alike(sort, g);
@@ -495,11 +495,10 @@ public final class CoinsOfLast {
     }
 
     private boolean addFromRow(Shelf from, int i, int ahead) {
-        // i is held against the row first, so that the sum behind it can't wrap.
-        if (i < 0 || i >= from.size || !from.spans(i + 4 * ahead, 4)) {
+        int at = i + 4 * ahead;
+        if (!from.spans(at, 4)) {
             return false;
         }
-        int at = i + 4 * ahead;
         int land = (int) from.cells[at];
         int worth = (int) from.cells[at + 1];
         int size = (int) from.cells[at + 2];
@@ -570,8 +569,8 @@ public final class CoinsOfLast {
 
     private boolean helps(int la, int given, int n, int had, int m) {
         int land = la / AMOUNT_PART;
-        // A swap of coins of other lands can't help: the amount could not be paid ahead of it.
-        if (coins.land[given] != land && coins.land[had] != land) {
+        // Without a coin more of that land nothing more can be paid.
+        if (coins.land[had] != land) {
             return false;
         }
         System.arraycopy(coins.held, 0, payer.counts, 0, SORTS);
@@ -594,7 +593,6 @@ public final class CoinsOfLast {
     }
 
     private int yearsWorth(int sort, int y) {
-        years.clearNames();
         years.names[Text.W] = coins.worth[sort];
         years.names[Text.L] = coins.land[sort];
         years.names[Text.S] = coins.size[sort];
@@ -627,7 +625,7 @@ public final class CoinsOfLast {
 
         static boolean fits(int land, int worth, int size, int weight) {
             return isLand(land) && within(worth, 1, WORTH_MOST)
-                && within(size, 0, HUNDRED_LESS) && within(weight, 0, HUNDRED_LESS);
+                && within(size, 0, TWO_DIGITS_MOST) && within(weight, 0, TWO_DIGITS_MOST);
         }
 
         boolean knows(int sort) {
@@ -724,7 +722,7 @@ public final class CoinsOfLast {
         private int known;
 
         static boolean fits(int land, int price, int value) {
-            return isLand(land) && within(price, 1, PRICE_MOST) && within(value, 0, HUNDRED_LESS);
+            return isLand(land) && within(price, 1, PRICE_MOST) && within(value, 0, TWO_DIGITS_MOST);
         }
 
         boolean knows(int thing) {
@@ -746,7 +744,7 @@ public final class CoinsOfLast {
 
     /** Finds out what can be paid, and with which coins. */
     private static final class Payer {
-        private static final int BITS = 64, WORDS = TOTAL_MOST / BITS + 1, NONE = Integer.MIN_VALUE;
+        private static final int BITS = 64, WORDS = TOTAL_MOST / BITS + 1, NONE = 1 << 31;
         private static final int SORT_BITS = 3, SORT_MASK = 7, ONE_COIN = 1 << SORTS * SORT_BITS;
 
         // The bit of an amount tells whether it can be paid.
@@ -898,6 +896,7 @@ public final class CoinsOfLast {
 
         private final int[] code = new int[CODES_MOST];
         private final int[] stack = new int[CODES_MOST];
+        // Each text sets the names that are its own; the others stay 0.
         private final int[] names = new int[NAMES_MOST];
         private int codes;
         private boolean there;
@@ -922,10 +921,6 @@ public final class CoinsOfLast {
                 codes++;
             }
             there = true;
-        }
-
-        void clearNames() {
-            Arrays.fill(names, 0);
         }
 
         int worked() {
@@ -1060,17 +1055,21 @@ public final class CoinsOfLast {
             readOperand(open);
             int highest = TOP_RANK;
             for (int n = 0; n < TAPE_MOST; n++) {
-                int sign = next();
-                int rank = rankOf(sign);
+                int rank = rankOf(next());
                 if (rank < lowest || rank > highest) {
                     return;
                 }
-                place++;
-                readJoined(rank + 1, open);
-                write(Text.FIRST_SIGN + sign);
+                readRest(rank, open);
                 // What was likened can't be likened again.
                 highest = rank == LIKENED ? LIKENED - 1 : rank;
             }
+        }
+
+        private void readRest(int rank, int open) {
+            int sign = next();
+            place++;
+            readJoined(rank + 1, open);
+            write(Text.FIRST_SIGN + sign);
         }
 
         private static int rankOf(int sign) {
@@ -1095,10 +1094,10 @@ public final class CoinsOfLast {
             } else if (open >= OPEN_MOST) {
                 fail();
             } else if (goesOnWith('!')) {
-                readOperand(open + 1);
+                readJoined(TOP_RANK + 1, open + 1);
                 write(Text.FIRST_SIGN + '!');
             } else if (goesOnWith('-')) {
-                readOperand(open + 1);
+                readJoined(TOP_RANK + 1, open + 1);
                 write(Text.FIRST_SIGN + Text.NEGATED);
             } else if (goesOnWith('(')) {
                 readJoined(OR, open + 1);
@@ -1145,7 +1144,6 @@ public final class CoinsOfLast {
             if (a == b || !rates.there) {
                 return THOUSAND;
             }
-            rates.clearNames();
             rates.names[Text.A] = a;
             rates.names[Text.B] = b;
             rates.names[Text.D] = day;
@@ -1176,18 +1174,20 @@ public final class CoinsOfLast {
                 return;
             }
             for (int next = 0; next < LANDS; next++) {
-                boolean ends = next == goal && at != goal;
-                if (!ends && (seen >> next & 1) != 0) {
-                    continue;
+                if (next == goal ? at != goal : (seen >> next & 1) == 0) {
+                    step(x, at, next, day, row, seen);
                 }
-                int becomes = changed(x, at, next, day);
-                int longer = row * 10 + next + 1;
-                if (!ends) {
-                    goOn(becomes, next, day + 1, longer, seen | 1 << next);
-                } else if (becomes > most) {
-                    most = becomes;
-                    digits = longer;
-                }
+            }
+        }
+
+        private void step(int x, int at, int next, int day, int row, int seen) {
+            int becomes = changed(x, at, next, day);
+            int longer = row * 10 + next + 1;
+            if (next != goal) {
+                goOn(becomes, next, day + 1, longer, seen | 1 << next);
+            } else if (becomes > most) {
+                most = becomes;
+                digits = longer;
             }
         }
     }
@@ -1225,9 +1225,13 @@ public final class CoinsOfLast {
             }
             int sum = 0;
             for (int c = 0; c <= n; c++) {
-                sum += waysFrom(first + 1, n - c, w - c * worth[first], g - c * weight[first]);
+                sum += waysBehind(first, c, n, w, g);
             }
             return sum;
+        }
+
+        private int waysBehind(int first, int c, int n, int w, int g) {
+            return waysFrom(first + 1, n - c, w - c * worth[first], g - c * weight[first]);
         }
 
         // Two equations tell the last two numbers at once; trying them all would take far longer.

@@ -96,6 +96,14 @@ public final class CoinsThingsTextsTest {
         Due.is("far ahead of the row", x.sorts(2, Integer.MIN_VALUE, 8), 0);
         fill(x, 3, 0, 1, 0, 0, 4, 1, 0, 0, 0, 1, 0, 0);
         Due.is("a land that is not so", x.sorts(3, 0, 3), 1);
+        CoinsOfLast y = new CoinsOfLast();
+        fill(y, 0, 0, 1, 0, 0, 3, 40, 99, 99);
+        Due.is("just to the end", y.sorts(0, 0, 2), 2);
+        Due.is("the last four", y.sorts(0, 4, 8), 1);
+        Due.is("one place too far", y.sorts(0, 5, 8), 0);
+        Due.is("the last place", y.sorts(0, 7, 1), 0);
+        Due.is("sorts", y.count(0), 3);
+        Due.is("its weight", y.of(2, 3), 99);
         fill(x, 3, 0, 41, 0, 0);
         Due.is("a worth that is not so", x.sorts(3, 0, 1), 0);
         fill(x, 3, 0, 0, 0, 0);

@@ -419,6 +419,17 @@ public final class DeedsShelvesTest {
         }
         elements(x, 1, 11, 12, 13, 14);
         elements(x, 0, 1, 2, 3, 4, 5, 6);
+        for (int sort = 0; sort < 5; sort++) {
+            x.row(5, sort, 1);
+            x.row(3, sort, 1);
+            x.keep(3, 0);
+            Due.is("a deed is no row", x.shift(5, 0, 3, 0, 1), -12);
+            Due.is("a deed is no row", x.shift(3, 0, 5, 0, 1), -12);
+            for (int other = 0; other < 5; other++) {
+                x.row(4, other, 1);
+                Due.is("rows of sorts", x.shift(5, 0, 4, 0, 1), sort == other ? 1 : -12);
+            }
+        }
     }
 
     private static void count() {
