@@ -7,6 +7,7 @@ public final class PayingTest {
         amounts();
         spend();
         spendLike();
+        spendAll();
         buyJust();
         buyMore();
         buyWithChange();
@@ -163,6 +164,27 @@ public final class PayingTest {
         due(y, 1, 1, 6, 0, 0);
         y.thing(1001, 0);
         due(y, 1, 0, 2, 0, 4);
+        CoinsOfLast z = withCoins(1, 1);
+        z.thing(1001, 1);
+        due(z, 1, 0, 0, 0, 1);
+        due(z, 1, 1, 1, 0, 0);
+        z.mend(0, 4, 1);
+        due(z, 1, 1, 0, 1, 1);
+    }
+
+    private static void spendAll() {
+        CoinsOfLast x = withCoins(40, 6, 40, 6, 40, 6, 40, 6, 40, 6, 40, 6, 40, 6, 40, 6);
+        x.thing(1160, 999);
+        x.thing(1160, 983);
+        due(x, 1, 0, 0, 9 * 99 + 3 * 98, 1920);
+        due(x, 1, 1, 0, 9 * 99 + 3 * 98, 1920);
+        x.thing(1200, 999);
+        // 9 of 160 and 2 of 200: 1840; 12 of 160: 1920; 7 of 200 and 3 of 160: 1880.
+        due(x, 1, 0, 0, 9 * 99 + 3 * 98, 1920);
+        x.thing(1120, 999);
+        // The most: 9 of 120, 5 of 160: 1880 with 14 things of 99 each.
+        due(x, 1, 1, 40, 14 * 99, 1880);
+        due(x, 1, 0, 0, 14 * 99, 1920);
     }
 
     private static void buyJust() {
