@@ -15,6 +15,7 @@ public final class ChangingTest {
         imageAndBack();
         undoAndRedo();
         fortyChanges();
+        fortyUnlikeChanges();
         Due.close();
     }
 
@@ -530,5 +531,37 @@ public final class ChangingTest {
         Due.is("changes", x.count(4), 40);
         Due.is("undo", x.undo(), 39);
         Due.is("size", x.of(0, 2), 42);
+    }
+
+    /** 49 changes of eight sorts and things: the first nine are forgotten. */
+    private static void fortyUnlikeChanges() {
+        int[] first = {1, 0, 0, 1, 0};
+        int[] of = {1, 2, 3, 11, 12};
+        CoinsOfLast x = new CoinsOfLast();
+        for (int n = 0; n < 8; n++) {
+            x.sort(101, 0);
+            x.thing(1001, 0);
+        }
+        for (int n = 0; n < 49; n++) {
+            Due.is("mend " + n, x.mend(n % 8, n % 5, told(n)), n < 40 ? first[n % 5] : told(n - 40));
+        }
+        for (int n = 48; n >= 9; n--) {
+            Due.is("undo", x.undo(), n - 9);
+            Due.is("undone " + n, x.of(n % 8, of[n % 5]), n < 40 ? first[n % 5] : told(n - 40));
+        }
+        Due.is("none", x.undo(), -5);
+        for (int n = 0; n < 40; n++) {
+            Due.is("forgotten or undone " + n, x.of(n % 8, of[n % 5]), n < 9 ? told(n) : first[n % 5]);
+        }
+        for (int n = 9; n < 49; n++) {
+            Due.is("redo", x.redo(), 48 - n);
+            Due.is("done again " + n, x.of(n % 8, of[n % 5]), told(n));
+        }
+        Due.is("none", x.redo(), -5);
+    }
+
+    /** A number from 2 to 39 for the n-th change, another one for the 40th behind it. */
+    private static int told(int n) {
+        return 2 + n * 7 % 38;
     }
 }
