@@ -1,16 +1,62 @@
 /** Compares answers with what is due; the tests end through close(). */
 final class Due {
+    private static final int TOLD_MOST = 100;
+
     private static int wrong = 0;
     private static int asked = 0;
+    private static int sentences = 0;
+    private static String sentence = "";
 
     private Due() {
+    }
+
+    /** A call that takes one number that matters. */
+    interface Call {
+        long of(int v);
+    }
+
+    /** The sentence of the document that is tested from here on; what fails tells it. */
+    static void says(String ofDocument) {
+        sentence = "\"" + ofDocument + "\": ";
+        sentences++;
     }
 
     static void is(String call, long got, long want) {
         asked++;
         if (got != want) {
-            wrong++;
-            System.out.println(call + " answered " + got + ", due is " + want);
+            tell(call + " answered " + got + ", due is " + want);
+        }
+    }
+
+    private static void isNot(String call, long got, long never) {
+        asked++;
+        if (got == never) {
+            tell(call + " answered " + got + ", which is never due");
+        }
+    }
+
+    private static void tell(String what) {
+        wrong++;
+        if (wrong <= TOLD_MOST) {
+            System.out.println(sentence + what);
+        }
+    }
+
+    /** Refused on either side of least .. most, and taken at both ends and beside them. */
+    static void ends(String call, int least, int most, long refused, Call asks) {
+        for (int v : new int[] {least - 1, most + 1}) {
+            is(call + " of " + v, asks.of(v), refused);
+        }
+        for (int v : new int[] {least, Math.min(least + 1, most), Math.max(most - 1, least), most}) {
+            isNot(call + " of " + v, asks.of(v), refused);
+        }
+    }
+
+    /** As ends(), and refused at the ends of the ints, too. */
+    static void range(String call, int least, int most, long refused, Call asks) {
+        ends(call, least, most, refused, asks);
+        for (int v : new int[] {Integer.MIN_VALUE, Integer.MIN_VALUE + 1, Integer.MAX_VALUE - 1, Integer.MAX_VALUE}) {
+            is(call + " of " + v, asks.of(v), refused);
         }
     }
 
@@ -32,7 +78,8 @@ final class Due {
     }
 
     static void close() {
-        System.out.println(asked + " answers, " + wrong + " not as due");
+        String tested = sentences > 0 ? sentences + " sentences, " : "";
+        System.out.println(tested + asked + " answers, " + wrong + " not as due");
         if (wrong != 0 || asked == 0) {
             System.exit(1);
         }
