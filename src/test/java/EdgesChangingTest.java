@@ -5,6 +5,7 @@ public final class EdgesChangingTest {
         changeShare();
         changeFee();
         changeAsked();
+        changeFromTo();
         changeOfTheGreatest();
         wayEachLandOnce();
         wayDays();
@@ -37,6 +38,7 @@ public final class EdgesChangingTest {
         latestFirst();
         noOtherBehind();
         fortyAtMost();
+        theFirstIsForgotten();
         fortyAndUndone();
         Due.close();
     }
@@ -120,6 +122,26 @@ public final class EdgesChangingTest {
             Due.is("change by " + ab, x.change(5, ab, 0), -1);
             Due.is("way by " + ab, x.way(5, ab, 0, 0), -1);
             Due.is("waits by " + ab, x.waits(5, ab, 0, 1), -1);
+        }
+    }
+
+    private static void changeFromTo() {
+        Due.says("an amount x of LAND a becomes x times THE RATE by 1000 (cut)");
+        CoinsOfLast x = byLaw("a*1000+b*100+d");
+        CoinsOfLast y = byLaw("1");
+        for (int a = 0; a < 4; a++) {
+            for (int b = 0; b < 4; b++) {
+                int ab = 10 * a + b;
+                int rate = 1000 * a + 100 * b + 7;
+                Due.is("rate by " + ab, x.rate(ab, 7), a == b ? 1000 : rate);
+                Due.is("change by " + ab, x.change(1000, ab, 7), a == b ? -1 : rate);
+                Due.is("waits by " + ab, x.waits(1000, ab, 700, 1), a == b ? -1 : rate);
+                Due.is("waits by " + ab, x.waits(1000, ab, 703, 1), a == b ? -1 : rate + 3);
+                // The straight way is the best when each change but it takes all.
+                Due.is("law", Due.law(y, 0, "a=" + a + "&b=" + b + "&d=7?3000;1"), 1);
+                Due.is("way by " + ab, y.way(100, ab, 7, 0), a == b ? -1 : 300);
+                Due.is("its lands", y.way(100, ab, 7, 1), a == b ? -1 : ab + 11);
+            }
         }
     }
 
@@ -646,8 +668,31 @@ public final class EdgesChangingTest {
         Due.is("one more of worth", y.heap(13, 6, 16), 3);
         Due.is("weights that don't fit", y.heap(12, 6, 17), 0);
         Due.is("just the first", y.heap(6, 6, 30), 1);
+        heapOfTwo();
         Due.is("just the last", y.heap(18, 6, 6), 1);
         Due.is("one above", y.heap(19, 6, 6), 0);
+    }
+
+    private static void heapOfTwo() {
+        // Two sorts of one weight, of one worth, and unlike in both.
+        int[][] seconds = {{2, 5}, {1, 7}, {2, 7}};
+        for (int[] second : seconds) {
+            CoinsOfLast x = new CoinsOfLast();
+            x.sort(1, 5);
+            x.sort(second[0], second[1]);
+            for (int n = 0; n <= 20; n++) {
+                for (int c = -1; c <= n + 1; c++) {
+                    // c of the first one and n - c of the second one: none when c is below 0 or above n.
+                    int w = c + (n - c) * second[0];
+                    int g = 5 * c + (n - c) * second[1];
+                    if (w >= 0 && g >= 0 && n % 5 == 0) {
+                        Due.is(c + " of " + n, x.heap(w, n, g), c >= 0 && c <= n ? 1 : 0);
+                    }
+                }
+            }
+            Due.is("a weight between", x.heap(10 * second[0], 10, 10 * second[1] - 1), 0);
+            Due.is("a worth between", x.heap(10 * second[0] + 1, 10, 10 * second[1]), 0);
+        }
     }
 
     // ---- give, led, image
@@ -773,6 +818,19 @@ public final class EdgesChangingTest {
         Due.is("spent", x.led(1), 0);
         Due.is("sorts", x.count(0), 2);
         Due.is("things", x.count(1), 2);
+        // What is LED goes back to what it was, not to nothing.
+        x.buy(0);
+        x.give(1);
+        Due.is("image", x.image(), 2);
+        x.purse(0, 3);
+        x.buy(0);
+        x.give(1);
+        Due.is("spent", x.led(1), 2);
+        Due.is("given", x.led(2), 6);
+        Due.is("back", x.back(), 2);
+        Due.is("spent", x.led(1), 1);
+        Due.is("given", x.led(2), 4);
+        Due.is("thing 0", x.of(0, 13), 2);
         // The image of nothing: all came since.
         CoinsOfLast y = new CoinsOfLast();
         y.image();
@@ -910,6 +968,40 @@ public final class EdgesChangingTest {
             Due.is("size", x.of(0, 2), made);
             Due.is("may be undone", x.count(4), kept);
         }
+    }
+
+    private static void theFirstIsForgotten() {
+        Due.says("40 at most are kept.");
+        CoinsOfLast x = new CoinsOfLast();
+        x.sort(110, 2030);
+        x.sort(110, 2030);
+        x.thing(1040, 505);
+        // A change each of other ones, then 38 of one: with the 41st the first is forgotten, then the second.
+        x.mend(1, 0, 11);
+        x.mend(0, 3, 41);
+        for (int n = 1; n <= 38; n++) {
+            x.mend(0, 1, 40 + n);
+        }
+        Due.is("forty", x.count(4), 40);
+        x.mend(0, 2, 99);
+        Due.is("forty", x.count(4), 40);
+        for (int n = 39; n >= 1; n--) {
+            Due.is("undo", x.undo(), n);
+            Due.is("price", x.of(0, 11), 41);
+        }
+        Due.is("size", x.of(0, 2), 20);
+        Due.is("weight", x.of(0, 3), 30);
+        Due.is("undo the second", x.undo(), 0);
+        Due.is("price", x.of(0, 11), 40);
+        Due.is("the first is forgotten", x.undo(), -5);
+        Due.is("its worth stays", x.of(1, 1), 11);
+        for (int n = 39; n >= 0; n--) {
+            Due.is("redo", x.redo(), n);
+        }
+        Due.is("price", x.of(0, 11), 41);
+        Due.is("size", x.of(0, 2), 78);
+        Due.is("weight", x.of(0, 3), 99);
+        Due.is("none", x.redo(), -5);
     }
 
     private static void fortyAndUndone() {

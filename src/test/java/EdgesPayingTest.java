@@ -13,6 +13,7 @@ public final class EdgesPayingTest {
         spendWhatCanBePaid();
         spendLeft();
         spendMost();
+        spendAFullPurse();
         spendAsked();
         buyByRule0();
         buyByRule1();
@@ -21,6 +22,7 @@ public final class EdgesPayingTest {
         buyWithTheMostCoins();
         greatestCoinThatComes();
         fewerThanSixOfIt();
+        allThatCanCome();
         ofLikeWorthTheFirst();
         changeOfOtherLands();
         manyIsOneLess();
@@ -305,6 +307,27 @@ public final class EdgesPayingTest {
         spendDue(y, 1, 0, 1, 6);
     }
 
+    private static void spendAFullPurse() {
+        Due.says("that by which least of THE PURSE's WORTH of that LAND is left");
+        CoinsOfLast x = withCoins(40, 6, 40, 6, 40, 6, 40, 6, 40, 6, 40, 6, 40, 6, 40, 6);
+        x.thing(1160, 19);
+        x.thing(1160, 13);
+        x.thing(1200, 3);
+        // 12 of 160 are all of 1920.
+        spendDue(x, 0, 0, 12, 1920);
+        spendDue(x, 1, 0, 12, 1920);
+        x.purse(7, 5);
+        // 1880 is 8 of 160 and 3 of 200.
+        spendDue(x, 0, 0, 8, 1880);
+        spendDue(x, 1, 120, 11, 1760);
+        x.purse(7, 6);
+        x.mend(0, 3, 159);
+        x.mend(1, 3, 161);
+        // No more than three pairs of both, which make 320 each: 960, and 600.
+        spendDue(x, 0, 360, 6, 1560);
+        spendDue(x, 1, 960, 6, 960);
+    }
+
     private static void spendAsked() {
         Due.says("LEFT (which 0), MOST (1): left (what 0), VALUE (1), PRICES (2). BAD.");
         CoinsOfLast x = withCoins(1, 6);
@@ -480,6 +503,25 @@ public final class EdgesPayingTest {
         Due.is("ones", y.of(1, 4), 1);
     }
 
+    private static void allThatCanCome() {
+        Due.says("as long as THE PURSE has fewer than 6 of it; what can't come so is LOST.");
+        // 40 for 1 to 6: 39 to 34 to come by as many ones of up to seven sorts, six of each at most.
+        for (int price = 1; price <= 6; price++) {
+            for (int ones = 0; ones <= 7; ones++) {
+                CoinsOfLast x = withCoins(40, 1);
+                for (int s = 0; s < ones; s++) {
+                    x.sort(101, 0);
+                }
+                x.rule(1, 2);
+                x.thing(1000 + price, 1);
+                int came = Math.min(40 - price, 6 * ones);
+                Due.is("price " + price + " with " + ones, x.buy(0), 40 - came);
+                Due.is("lost", x.led(0), 40 - price - came);
+                Due.is("coins", x.count(2), came);
+            }
+        }
+    }
+
     private static void ofLikeWorthTheFirst() {
         Due.says("again and again the greatest coin of the LAND (of like WORTH the first)");
         int[][] heldAndThen = {{0, 0, 3, 0}, {3, 0, 6, 0}, {4, 0, 6, 1}, {4, 4, 6, 5}, {5, 5, 6, 6}, {6, 0, 6, 3}, {6, 4, 6, 6}, {6, 6, 6, 6}};
@@ -637,6 +679,18 @@ public final class EdgesPayingTest {
             Due.is("at " + w[0], x.standIn(0, 0, w[0], 0), w[1]);
             Due.is("less at " + w[0], x.standIn(0, 0, w[0], 1), w[2]);
         }
+        // The first of all goes, if none behind it is less.
+        CoinsOfLast y = new CoinsOfLast();
+        y.sort(110, 0);
+        y.sort(120, 0);
+        y.sort(111, 0);
+        y.sort(110, 0);
+        y.sort(112, 0);
+        Due.is("sort 0", y.standIn(1, 0, 0, 0), 0);
+        Due.is("10 less", y.standIn(1, 0, 0, 1), 10);
+        Due.is("for sort 0 sort 3", y.standIn(0, 0, 0, 0), 3);
+        y.mend(3, 0, 9);
+        Due.is("sort 3", y.standIn(1, 0, 0, 0), 3);
         // By the rate to the told one's land, not from it: all of land 1 are 5 times as much there.
         Due.is("of land 1 for 10 of land 2", x.standIn(4, 0, 100, 0), 2);
         Due.is("50 is 40 more", x.standIn(4, 0, 100, 1), -40);

@@ -459,6 +459,17 @@ public final class EdgesTextsTest {
         Due.is("law", Due.law(x, 1, "0?7;y?8"), 1);
         Due.is("none: 0", x.kept(0), 0);
         Due.is("the second", x.kept(1), 8);
+        // Nothing of a longer text stays behind a shorter one of which no line counts.
+        Due.is("law", Due.law(x, 1, "0?1;0?2;3"), 1);
+        Due.is("the third", x.kept(0), 3);
+        Due.is("law", Due.law(x, 1, "0?7"), 1);
+        Due.is("none: 0", x.kept(0), 0);
+        Due.is("law", Due.law(x, 0, "0?1;0?2;3"), 1);
+        Due.is("the third", x.rate(1, 0), 3);
+        Due.is("law", Due.law(x, 0, "0?7"), 1);
+        Due.is("none: 0, held at 1", x.rate(1, 0), 1);
+        Due.is("a fault behind a line", Due.law(x, 0, "5;"), -102);
+        Due.is("none: 0, held at 1", x.rate(1, 0), 1);
     }
 
     private static void faults() {
