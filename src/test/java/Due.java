@@ -64,6 +64,16 @@ final class Due {
         return asked;
     }
 
+    /** Coins of land 1: each pair a worth and how many the purse has. */
+    static CoinsOfLast withCoins(int... pairs) {
+        CoinsOfLast x = new CoinsOfLast();
+        for (int s = 0; s < pairs.length; s += 2) {
+            x.sort(100 + pairs[s], 0);
+            x.purse(s / 2, pairs[s + 1]);
+        }
+        return x;
+    }
+
     /** Feeds a text letter by letter. */
     static void tape(CoinsOfLast x, String text) {
         for (int i = 0; i < text.length(); i++) {

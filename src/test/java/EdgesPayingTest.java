@@ -35,22 +35,12 @@ public final class EdgesPayingTest {
         Due.close();
     }
 
-    /** Coins of land 1: each pair a worth and how many the purse has. */
-    private static CoinsOfLast withCoins(int... pairs) {
-        CoinsOfLast x = new CoinsOfLast();
-        for (int s = 0; s < pairs.length; s += 2) {
-            x.sort(100 + pairs[s], 0);
-            x.purse(s / 2, pairs[s + 1]);
-        }
-        return x;
-    }
-
     // ---- paid
 
     private static void paidAmounts() {
         Due.says("PAID an amount (0 .. 9999) of a LAND (la: 10000 times the LAND, and the amount)");
         Due.range("la", 0, 39999, -1, la -> new CoinsOfLast().paid(la, 0, -1));
-        CoinsOfLast x = withCoins(7, 2);
+        CoinsOfLast x = Due.withCoins(7, 2);
         Due.is("land 0, amount 7", x.paid(7, 0, -1), -2);
         Due.is("land 0, amount 9999", x.paid(9999, 0, -1), -2);
         Due.is("land 1, amount 0", x.paid(10000, 0, -1), 0);
@@ -66,18 +56,18 @@ public final class EdgesPayingTest {
 
     private static void paidLandsAndHow() {
         Due.says("with the fewest (how 0), the most (1) coins: how many (sort -1), how many of a SORT. BAD; NOT.");
-        Due.range("how", 0, 1, -1, how -> withCoins(7, 2).paid(10007, how, -1));
-        Due.range("sort", -1, 1, -1, sort -> withCoins(7, 2, 3, 1).paid(10007, 0, sort));
-        Due.is("bad ahead of not", withCoins(7, 2).paid(10008, 2, -1), -1);
-        Due.is("bad ahead of not", withCoins(7, 2).paid(10008, 0, 1), -1);
-        Due.is("not", withCoins(7, 2).paid(10008, 0, 0), -2);
-        Due.is("not", withCoins(7, 2).paid(10008, 1, -1), -2);
+        Due.range("how", 0, 1, -1, how -> Due.withCoins(7, 2).paid(10007, how, -1));
+        Due.range("sort", -1, 1, -1, sort -> Due.withCoins(7, 2, 3, 1).paid(10007, 0, sort));
+        Due.is("bad ahead of not", Due.withCoins(7, 2).paid(10008, 2, -1), -1);
+        Due.is("bad ahead of not", Due.withCoins(7, 2).paid(10008, 0, 1), -1);
+        Due.is("not", Due.withCoins(7, 2).paid(10008, 0, 0), -2);
+        Due.is("not", Due.withCoins(7, 2).paid(10008, 1, -1), -2);
     }
 
     private static void paidJust() {
         Due.says("PAID: an amount that coins of THE PURSE of a LAND come to just");
         for (int how = 0; how < 2; how++) {
-            CoinsOfLast x = withCoins(7, 2);
+            CoinsOfLast x = Due.withCoins(7, 2);
             int[] want = {0, -2, -2, -2, -2, -2, -2, 1, -2, -2, -2, -2, -2, -2, 2, -2, -2, -2, -2, -2, -2, -2};
             for (int amount = 0; amount < want.length; amount++) {
                 Due.is("paid " + amount, x.paid(10000 + amount, how, -1), want[amount]);
@@ -90,7 +80,7 @@ public final class EdgesPayingTest {
             Due.is("nothing without a coin", x.paid(10000, how, -1), 0);
             Due.is("nothing of nothing", new CoinsOfLast().paid(0, how, -1), 0);
             Due.is("one of nothing", new CoinsOfLast().paid(1, how, -1), -2);
-            CoinsOfLast y = withCoins(40, 6, 40, 6, 40, 6, 40, 6, 40, 6, 40, 6, 40, 6, 40, 6);
+            CoinsOfLast y = Due.withCoins(40, 6, 40, 6, 40, 6, 40, 6, 40, 6, 40, 6, 40, 6, 40, 6);
             Due.is("below all", y.paid(11919, how, -1), -2);
             Due.is("all", y.paid(11920, how, -1), 48);
             Due.is("above all", y.paid(11921, how, -1), -2);
@@ -99,7 +89,7 @@ public final class EdgesPayingTest {
 
     private static void paidFewestAndMost() {
         Due.says("with the fewest, with the most coins");
-        CoinsOfLast x = withCoins(1, 6, 2, 3);
+        CoinsOfLast x = Due.withCoins(1, 6, 2, 3);
         int[] fewest = {0, 1, 1, 2, 2, 3, 3, 4, 5, 6, 7, 8, 9, -2};
         int[] most = {0, 1, 2, 3, 4, 5, 6, 6, 7, 7, 8, 8, 9, -2};
         for (int amount = 0; amount < fewest.length; amount++) {
@@ -114,14 +104,14 @@ public final class EdgesPayingTest {
         int[][] orders = {{6, 2, 5, 1, 7, 1, 4, 1, 8, 1}, {5, 1, 7, 1, 6, 2, 4, 1, 8, 1}, {8, 1, 6, 2, 5, 1, 7, 1, 4, 1}};
         int[][] wants = {{2, 0, 0, 0, 0}, {1, 1, 0, 0, 0}, {1, 0, 0, 0, 1}};
         for (int i = 0; i < orders.length; i++) {
-            CoinsOfLast x = withCoins(orders[i]);
+            CoinsOfLast x = Due.withCoins(orders[i]);
             Due.is("coins", x.paid(10012, 0, -1), 2);
             for (int s = 0; s < 5; s++) {
                 Due.is("order " + i + ", sort " + s, x.paid(10012, 0, s), wants[i][s]);
             }
         }
         // Eight like sorts: the first ones go, as far as there are any.
-        CoinsOfLast y = withCoins(3, 6, 3, 1, 3, 0, 3, 6, 3, 6, 3, 6, 3, 6, 3, 6);
+        CoinsOfLast y = Due.withCoins(3, 6, 3, 1, 3, 0, 3, 6, 3, 6, 3, 6, 3, 6, 3, 6);
         for (int how = 0; how < 2; how++) {
             for (int n = 0; n <= 37; n++) {
                 int[] held = {6, 1, 0, 6, 6, 6, 6, 6};
@@ -133,10 +123,10 @@ public final class EdgesPayingTest {
                 }
             }
             if (how == 0) {
-                y = withCoins(3, 6, 3, 1, 3, 0, 3, 6, 3, 6, 3, 6, 3, 6, 3, 6);
+                y = Due.withCoins(3, 6, 3, 1, 3, 0, 3, 6, 3, 6, 3, 6, 3, 6, 3, 6);
             }
         }
-        CoinsOfLast z = withCoins(2, 6, 1, 6, 3, 6);
+        CoinsOfLast z = Due.withCoins(2, 6, 1, 6, 3, 6);
         // 9 with the most: 6 ones and a 3 or 5 ones and two 2; the 2 is the first.
         Due.is("most", z.paid(10009, 1, -1), 7);
         Due.is("of the first", z.paid(10009, 1, 0), 2);
@@ -146,7 +136,7 @@ public final class EdgesPayingTest {
 
     private static void paidOfASort() {
         Due.says("how many (sort -1), how many of a SORT.");
-        CoinsOfLast x = withCoins(10, 2, 5, 1);
+        CoinsOfLast x = Due.withCoins(10, 2, 5, 1);
         x.sort(210, 0);
         x.purse(2, 6);
         Due.is("coins", x.paid(10025, 0, -1), 3);
@@ -170,33 +160,33 @@ public final class EdgesPayingTest {
 
     private static void amounts() {
         Due.says("How many unlike amounts above 0 of a LAND can be PAID (what 0), the least amount above 0 that can't (1). BAD.");
-        Due.range("what", 0, 1, -1, what -> withCoins(1, 1).amounts(1, what));
+        Due.range("what", 0, 1, -1, what -> Due.withCoins(1, 1).amounts(1, what));
         amountsDue(new CoinsOfLast(), 0, 1);
-        amountsDue(withCoins(1, 0), 0, 1);
-        amountsDue(withCoins(1, 1), 1, 2);
-        amountsDue(withCoins(1, 6), 6, 7);
-        amountsDue(withCoins(2, 1), 1, 1);
-        amountsDue(withCoins(2, 1, 2, 1), 2, 1);
-        amountsDue(withCoins(1, 1, 2, 1), 3, 4);
-        amountsDue(withCoins(1, 1, 3, 1), 3, 2);
-        amountsDue(withCoins(1, 2, 3, 1), 5, 6);
-        amountsDue(withCoins(1, 1, 1, 1, 1, 1), 3, 4);
-        amountsDue(withCoins(40, 6, 39, 6), 48, 1);
-        CoinsOfLast x = withCoins(1, 6);
+        amountsDue(Due.withCoins(1, 0), 0, 1);
+        amountsDue(Due.withCoins(1, 1), 1, 2);
+        amountsDue(Due.withCoins(1, 6), 6, 7);
+        amountsDue(Due.withCoins(2, 1), 1, 1);
+        amountsDue(Due.withCoins(2, 1, 2, 1), 2, 1);
+        amountsDue(Due.withCoins(1, 1, 2, 1), 3, 4);
+        amountsDue(Due.withCoins(1, 1, 3, 1), 3, 2);
+        amountsDue(Due.withCoins(1, 2, 3, 1), 5, 6);
+        amountsDue(Due.withCoins(1, 1, 1, 1, 1, 1), 3, 4);
+        amountsDue(Due.withCoins(40, 6, 39, 6), 48, 1);
+        CoinsOfLast x = Due.withCoins(1, 6);
         Due.is("of land 0", x.amounts(0, 0), 0);
         Due.is("of land 2", x.amounts(2, 1), 1);
     }
 
     private static void amountsOfAFullPurse() {
         Due.says("How many unlike amounts above 0 of a LAND can be PAID (what 0), the least amount above 0 that can't (1). BAD.");
-        amountsDue(withCoins(40, 6, 40, 6, 40, 6, 40, 6, 40, 6, 40, 6, 40, 6, 40, 6), 48, 1);
-        amountsDue(withCoins(1, 6, 1, 6, 1, 6, 1, 6, 1, 6, 1, 6, 1, 6, 1, 6), 48, 49);
+        amountsDue(Due.withCoins(40, 6, 40, 6, 40, 6, 40, 6, 40, 6, 40, 6, 40, 6, 40, 6), 48, 1);
+        amountsDue(Due.withCoins(1, 6, 1, 6, 1, 6, 1, 6, 1, 6, 1, 6, 1, 6, 1, 6), 48, 49);
         // 1 to 42 by ones and sevens, and 36 forties: no gap up to 48 + 1440.
-        amountsDue(withCoins(1, 6, 7, 6, 40, 6, 40, 6, 40, 6, 40, 6, 40, 6, 40, 6), 1488, 1489);
+        amountsDue(Due.withCoins(1, 6, 7, 6, 40, 6, 40, 6, 40, 6, 40, 6, 40, 6, 40, 6), 1488, 1489);
         // 1 to 63 (the last bit of the first word of 64), 64 and 65.
-        amountsDue(withCoins(1, 3, 4, 3, 16, 3), 63, 64);
-        amountsDue(withCoins(1, 4, 4, 3, 16, 3), 64, 65);
-        amountsDue(withCoins(1, 5, 4, 3, 16, 3), 65, 66);
+        amountsDue(Due.withCoins(1, 3, 4, 3, 16, 3), 63, 64);
+        amountsDue(Due.withCoins(1, 4, 4, 3, 16, 3), 64, 65);
+        amountsDue(Due.withCoins(1, 5, 4, 3, 16, 3), 65, 66);
     }
 
     // ---- spend
@@ -210,7 +200,7 @@ public final class EdgesPayingTest {
     private static void spendManyOfEach() {
         Due.says("of all choices of THINGS of a LAND (0 to MANY of each)");
         for (int many : new int[] {0, 1, 2, 8, 9}) {
-            CoinsOfLast x = withCoins(1, 6, 1, 6);
+            CoinsOfLast x = Due.withCoins(1, 6, 1, 6);
             x.thing(1001, 10 + many);
             spendDue(x, 0, 12 - many, many, many);
             spendDue(x, 1, 12 - many, many, many);
@@ -218,17 +208,17 @@ public final class EdgesPayingTest {
             int both = Math.min(12, 2 * many);
             spendDue(x, 0, 12 - both, 2 * Math.min(many, 12) + both - Math.min(many, 12), both);
         }
-        CoinsOfLast y = withCoins(1, 6);
+        CoinsOfLast y = Due.withCoins(1, 6);
         y.thing(2001, 999);
         y.thing(1, 999);
         spendDue(y, 0, 6, 0, 0);
         spendDue(y, 1, 6, 0, 0);
         Due.is("of land 2 nothing is left", y.spend(2, 0, 0), 0);
         Due.is("of land 2 nothing is had", y.spend(2, 1, 1), 0);
-        spendDue(withCoins(1, 6), 0, 6, 0, 0);
+        spendDue(Due.withCoins(1, 6), 0, 6, 0, 0);
         spendDue(new CoinsOfLast(), 1, 0, 0, 0);
         // All ten things, with nine of each: 90 of them, as far as 48 coins go.
-        CoinsOfLast z = withCoins(1, 6, 1, 6, 1, 6, 1, 6, 1, 6, 1, 6, 1, 6, 1, 6);
+        CoinsOfLast z = Due.withCoins(1, 6, 1, 6, 1, 6, 1, 6, 1, 6, 1, 6, 1, 6, 1, 6);
         for (int t = 0; t < 10; t++) {
             z.thing(1001, 10 * t + 9);
         }
@@ -240,7 +230,7 @@ public final class EdgesPayingTest {
         Due.says("whose PRICES together can be PAID");
         int[] left = {13, 13, 10, 13, 13, 13, 13, 13, 13, 3, 13, 13, 0, 13, 13};
         for (int price = 1; price <= left.length; price++) {
-            CoinsOfLast x = withCoins(10, 1, 3, 1);
+            CoinsOfLast x = Due.withCoins(10, 1, 3, 1);
             x.thing(1000 + price, 71);
             int want = left[price - 1];
             for (int which = 0; which < 2; which++) {
@@ -248,7 +238,7 @@ public final class EdgesPayingTest {
             }
         }
         // 4 and 6 can be paid together, neither alone.
-        CoinsOfLast y = withCoins(10, 1);
+        CoinsOfLast y = Due.withCoins(10, 1);
         y.thing(1004, 11);
         y.thing(1006, 21);
         spendDue(y, 0, 0, 3, 10);
@@ -258,17 +248,17 @@ public final class EdgesPayingTest {
         y.mend(1, 3, 7);
         spendDue(y, 1, 10, 0, 0);
         // The dearest thing there may be: 200 of 200, and of 199.
-        CoinsOfLast z = withCoins(40, 5);
+        CoinsOfLast z = Due.withCoins(40, 5);
         z.thing(1200, 991);
         spendDue(z, 0, 0, 99, 200);
-        CoinsOfLast w = withCoins(40, 4, 39, 1);
+        CoinsOfLast w = Due.withCoins(40, 4, 39, 1);
         w.thing(1200, 991);
         spendDue(w, 0, 199, 0, 0);
     }
 
     private static void spendLeft() {
         Due.says("that by which least of THE PURSE's WORTH of that LAND is left; of like ones the greatest VALUE: that left, VALUE, PRICES.");
-        CoinsOfLast x = withCoins(1, 6);
+        CoinsOfLast x = Due.withCoins(1, 6);
         x.thing(1004, 991);
         x.thing(1005, 11);
         spendDue(x, 0, 1, 1, 5);
@@ -283,14 +273,14 @@ public final class EdgesPayingTest {
         x.mend(0, 4, 0);
         spendDue(x, 0, 0, 2, 6);
         // Things of no value go, too.
-        CoinsOfLast y = withCoins(1, 6);
+        CoinsOfLast y = Due.withCoins(1, 6);
         y.thing(1006, 1);
         spendDue(y, 0, 0, 0, 6);
     }
 
     private static void spendMost() {
         Due.says("MOST: of them the one with the greatest VALUE, then the least PRICES: likewise.");
-        CoinsOfLast x = withCoins(5, 2);
+        CoinsOfLast x = Due.withCoins(5, 2);
         x.thing(1005, 71);
         x.thing(1010, 61);
         spendDue(x, 1, 5, 7, 5);
@@ -299,7 +289,7 @@ public final class EdgesPayingTest {
         spendDue(x, 0, 0, 7, 10);
         x.mend(1, 4, 8);
         spendDue(x, 1, 0, 8, 10);
-        CoinsOfLast y = withCoins(1, 6);
+        CoinsOfLast y = Due.withCoins(1, 6);
         y.thing(1006, 1);
         // Of no value at all: nothing is bought.
         spendDue(y, 1, 6, 0, 0);
@@ -309,7 +299,7 @@ public final class EdgesPayingTest {
 
     private static void spendAFullPurse() {
         Due.says("that by which least of THE PURSE's WORTH of that LAND is left");
-        CoinsOfLast x = withCoins(40, 6, 40, 6, 40, 6, 40, 6, 40, 6, 40, 6, 40, 6, 40, 6);
+        CoinsOfLast x = Due.withCoins(40, 6, 40, 6, 40, 6, 40, 6, 40, 6, 40, 6, 40, 6, 40, 6);
         x.thing(1160, 19);
         x.thing(1160, 13);
         x.thing(1200, 3);
@@ -330,7 +320,7 @@ public final class EdgesPayingTest {
 
     private static void spendAsked() {
         Due.says("LEFT (which 0), MOST (1): left (what 0), VALUE (1), PRICES (2). BAD.");
-        CoinsOfLast x = withCoins(1, 6);
+        CoinsOfLast x = Due.withCoins(1, 6);
         x.thing(1004, 991);
         Due.range("which", 0, 1, -1, which -> x.spend(1, which, 0));
         Due.range("what", 0, 2, -1, what -> x.spend(1, 0, what));
@@ -356,45 +346,45 @@ public final class EdgesPayingTest {
 
     private static void buyByRule0() {
         Due.says("by RULE 0 PAID with the most coins (NOT: it can't be)");
-        bought(withCoins(10, 2), 0, 9, -2, 0);
-        bought(withCoins(10, 2), 0, 10, 10, 0);
-        bought(withCoins(10, 2), 0, 11, -2, 0);
-        bought(withCoins(10, 2), 0, 19, -2, 0);
-        bought(withCoins(10, 2), 0, 20, 20, 0);
-        bought(withCoins(10, 2), 0, 21, -2, 0);
+        bought(Due.withCoins(10, 2), 0, 9, -2, 0);
+        bought(Due.withCoins(10, 2), 0, 10, 10, 0);
+        bought(Due.withCoins(10, 2), 0, 11, -2, 0);
+        bought(Due.withCoins(10, 2), 0, 19, -2, 0);
+        bought(Due.withCoins(10, 2), 0, 20, 20, 0);
+        bought(Due.withCoins(10, 2), 0, 21, -2, 0);
         bought(new CoinsOfLast(), 0, 1, -2, 0);
-        bought(withCoins(1, 1), 0, 1, 1, 0);
-        bought(withCoins(40, 5), 0, 200, 200, 0);
-        bought(withCoins(40, 4, 39, 1), 0, 200, -2, 0);
+        bought(Due.withCoins(1, 1), 0, 1, 1, 0);
+        bought(Due.withCoins(40, 5), 0, 200, 200, 0);
+        bought(Due.withCoins(40, 4, 39, 1), 0, 200, -2, 0);
     }
 
     private static void buyByRule1() {
         Due.says("by 1 what is more is LOST");
-        bought(withCoins(10, 2), 1, 1, 10, 9);
-        bought(withCoins(10, 2), 1, 9, 10, 1);
-        bought(withCoins(10, 2), 1, 10, 10, 0);
-        bought(withCoins(10, 2), 1, 11, 20, 9);
-        bought(withCoins(10, 2), 1, 19, 20, 1);
-        bought(withCoins(10, 2), 1, 20, 20, 0);
-        bought(withCoins(10, 2), 1, 21, -2, 0);
+        bought(Due.withCoins(10, 2), 1, 1, 10, 9);
+        bought(Due.withCoins(10, 2), 1, 9, 10, 1);
+        bought(Due.withCoins(10, 2), 1, 10, 10, 0);
+        bought(Due.withCoins(10, 2), 1, 11, 20, 9);
+        bought(Due.withCoins(10, 2), 1, 19, 20, 1);
+        bought(Due.withCoins(10, 2), 1, 20, 20, 0);
+        bought(Due.withCoins(10, 2), 1, 21, -2, 0);
         bought(new CoinsOfLast(), 1, 1, -2, 0);
-        bought(withCoins(40, 5), 1, 199, 200, 1);
-        bought(withCoins(40, 5), 1, 200, 200, 0);
-        bought(withCoins(40, 4, 39, 1), 1, 200, -2, 0);
+        bought(Due.withCoins(40, 5), 1, 199, 200, 1);
+        bought(Due.withCoins(40, 5), 1, 200, 200, 0);
+        bought(Due.withCoins(40, 4, 39, 1), 1, 200, -2, 0);
     }
 
     private static void buyByRule2() {
         Due.says("by 2 it comes back");
-        bought(withCoins(10, 2, 1, 0), 2, 9, 9, 0);
-        bought(withCoins(10, 2, 1, 0), 2, 10, 10, 0);
-        bought(withCoins(10, 2, 1, 0), 2, 11, 14, 3);
-        bought(withCoins(10, 2, 1, 0), 2, 14, 14, 0);
-        bought(withCoins(10, 2, 1, 0), 2, 13, 14, 1);
-        bought(withCoins(10, 2, 1, 0), 2, 4, 4, 0);
-        bought(withCoins(10, 2, 1, 0), 2, 3, 4, 1);
-        bought(withCoins(10, 2), 2, 9, 10, 1);
-        bought(withCoins(10, 2), 2, 20, 20, 0);
-        bought(withCoins(10, 2), 2, 21, -2, 0);
+        bought(Due.withCoins(10, 2, 1, 0), 2, 9, 9, 0);
+        bought(Due.withCoins(10, 2, 1, 0), 2, 10, 10, 0);
+        bought(Due.withCoins(10, 2, 1, 0), 2, 11, 14, 3);
+        bought(Due.withCoins(10, 2, 1, 0), 2, 14, 14, 0);
+        bought(Due.withCoins(10, 2, 1, 0), 2, 13, 14, 1);
+        bought(Due.withCoins(10, 2, 1, 0), 2, 4, 4, 0);
+        bought(Due.withCoins(10, 2, 1, 0), 2, 3, 4, 1);
+        bought(Due.withCoins(10, 2), 2, 9, 10, 1);
+        bought(Due.withCoins(10, 2), 2, 20, 20, 0);
+        bought(Due.withCoins(10, 2), 2, 21, -2, 0);
         bought(new CoinsOfLast(), 2, 1, -2, 0);
     }
 
@@ -403,20 +393,20 @@ public final class EdgesPayingTest {
         int[][] wants = {{1, 30}, {29, 30}, {30, 30}, {31, 40}, {39, 40}, {40, 40}, {41, 70}, {69, 70}, {70, 70}, {71, -2}, {200, -2}};
         for (int[] want : wants) {
             for (int rule = 1; rule <= 2; rule++) {
-                CoinsOfLast x = withCoins(30, 1, 40, 1);
+                CoinsOfLast x = Due.withCoins(30, 1, 40, 1);
                 // By rule 2 nothing comes back of a rest below 30.
                 int rest = want[1] - want[0];
                 bought(x, rule, want[0], want[1], rest);
             }
         }
-        CoinsOfLast y = withCoins(40, 6, 40, 6, 40, 6, 40, 6, 40, 6, 40, 6, 40, 6, 40, 6);
+        CoinsOfLast y = Due.withCoins(40, 6, 40, 6, 40, 6, 40, 6, 40, 6, 40, 6, 40, 6, 40, 6);
         bought(y, 1, 199, 200, 1);
     }
 
     private static void buyWithTheMostCoins() {
         Due.says("with the most coins; by 1 what is more is LOST");
         for (int rule = 0; rule <= 2; rule++) {
-            CoinsOfLast x = withCoins(10, 1, 5, 2, 2, 2);
+            CoinsOfLast x = Due.withCoins(10, 1, 5, 2, 2, 2);
             x.rule(1, rule);
             x.thing(1010, 9);
             x.thing(1009, 9);
@@ -432,7 +422,7 @@ public final class EdgesPayingTest {
             Due.is("of 2", x.of(2, 4), 0);
         }
         // Of like ones that with most of the first sort goes.
-        CoinsOfLast y = withCoins(5, 2, 5, 3);
+        CoinsOfLast y = Due.withCoins(5, 2, 5, 3);
         y.thing(1015, 9);
         y.buy(0);
         Due.is("of the first", y.of(0, 4), 0);
@@ -444,7 +434,7 @@ public final class EdgesPayingTest {
         // 40 for 33: 7 to come.
         int[][] worthsAndWants = {{6, 6, 1}, {7, 7, 0}, {8, 0, 7}, {3, 6, 1}, {4, 4, 3}, {1, 6, 1}};
         for (int[] w : worthsAndWants) {
-            CoinsOfLast x = withCoins(40, 1, w[0], 0);
+            CoinsOfLast x = Due.withCoins(40, 1, w[0], 0);
             x.rule(1, 2);
             x.thing(1033, 1);
             Due.is("back by " + w[0], x.buy(0), 40 - w[1]);
@@ -453,7 +443,7 @@ public final class EdgesPayingTest {
             Due.is("coins", x.of(1, 4), w[1] / w[0]);
         }
         // 7 to come: 5, then 2 of 1 (3 is too much), though 3 and 4 would do it.
-        CoinsOfLast y = withCoins(40, 1, 1, 0, 3, 0, 5, 0);
+        CoinsOfLast y = Due.withCoins(40, 1, 1, 0, 3, 0, 5, 0);
         y.rule(1, 2);
         y.thing(1033, 1);
         Due.is("back", y.buy(0), 33);
@@ -461,7 +451,7 @@ public final class EdgesPayingTest {
         Due.is("of 3", y.of(2, 4), 0);
         Due.is("of 5", y.of(3, 4), 1);
         // Greedy: 6 to come by 4, then nothing, though 3 and 3 would do it.
-        CoinsOfLast z = withCoins(40, 1, 3, 0, 4, 0);
+        CoinsOfLast z = Due.withCoins(40, 1, 3, 0, 4, 0);
         z.rule(1, 2);
         z.thing(1034, 1);
         Due.is("back", z.buy(0), 36);
@@ -469,14 +459,14 @@ public final class EdgesPayingTest {
         Due.is("of 3", z.of(1, 4), 0);
         Due.is("of 4", z.of(2, 4), 1);
         // The coin that was paid can't come for less than itself; another like it can't either.
-        bought(withCoins(40, 1), 2, 1, 40, 39);
+        bought(Due.withCoins(40, 1), 2, 1, 40, 39);
     }
 
     private static void fewerThanSixOfIt() {
         Due.says("as long as THE PURSE has fewer than 6 of it; what can't come so is LOST.");
         // 40 for 37, where ones are 40 less: 3 to come by ones.
         for (int held = 0; held <= 6; held++) {
-            CoinsOfLast x = withCoins(40, 1, 1, held);
+            CoinsOfLast x = Due.withCoins(40, 1, 1, held);
             x.rule(1, 2);
             x.thing(1037, 1);
             int came = Math.min(3, 6 - held);
@@ -486,7 +476,7 @@ public final class EdgesPayingTest {
         }
         // When there are 6 of the greatest one the next greatest comes.
         for (int held = 4; held <= 6; held++) {
-            CoinsOfLast x = withCoins(40, 1, 3, held, 1, 0);
+            CoinsOfLast x = Due.withCoins(40, 1, 3, held, 1, 0);
             x.rule(1, 2);
             x.thing(1034, 1);
             int threes = Math.min(2, 6 - held);
@@ -496,7 +486,7 @@ public final class EdgesPayingTest {
             Due.is("ones", x.of(2, 4), ones);
         }
         // The coins that were paid make room: 6 of 7 go, 5 of them are for 1.
-        CoinsOfLast y = withCoins(7, 6, 1, 6);
+        CoinsOfLast y = Due.withCoins(7, 6, 1, 6);
         y.rule(1, 2);
         y.thing(1047, 1);
         Due.is("all but one", y.buy(0), 47);
@@ -508,7 +498,7 @@ public final class EdgesPayingTest {
         // 40 for 1 to 6: 39 to 34 to come by as many ones of up to seven sorts, six of each at most.
         for (int price = 1; price <= 6; price++) {
             for (int ones = 0; ones <= 7; ones++) {
-                CoinsOfLast x = withCoins(40, 1);
+                CoinsOfLast x = Due.withCoins(40, 1);
                 for (int s = 0; s < ones; s++) {
                     x.sort(101, 0);
                 }
@@ -526,7 +516,7 @@ public final class EdgesPayingTest {
         Due.says("again and again the greatest coin of the LAND (of like WORTH the first)");
         int[][] heldAndThen = {{0, 0, 3, 0}, {3, 0, 6, 0}, {4, 0, 6, 1}, {4, 4, 6, 5}, {5, 5, 6, 6}, {6, 0, 6, 3}, {6, 4, 6, 6}, {6, 6, 6, 6}};
         for (int[] h : heldAndThen) {
-            CoinsOfLast x = withCoins(1, h[0], 40, 1, 1, h[1]);
+            CoinsOfLast x = Due.withCoins(1, h[0], 40, 1, 1, h[1]);
             x.rule(1, 2);
             x.thing(1037, 1);
             int came = h[2] - h[0] + h[3] - h[1];
@@ -539,7 +529,7 @@ public final class EdgesPayingTest {
 
     private static void changeOfOtherLands() {
         Due.says("the greatest coin of the LAND");
-        CoinsOfLast x = withCoins(40, 1);
+        CoinsOfLast x = Due.withCoins(40, 1);
         x.sort(203, 0);
         x.sort(1, 0);
         x.rule(1, 2);
@@ -550,7 +540,7 @@ public final class EdgesPayingTest {
         Due.is("of land 2", x.of(1, 4), 0);
         Due.is("of land 0", x.of(2, 4), 0);
         Due.is("lost", x.led(0), 3);
-        CoinsOfLast y = withCoins(40, 1, 3, 0);
+        CoinsOfLast y = Due.withCoins(40, 1, 3, 0);
         y.rule(0, 2);
         y.rule(2, 2);
         y.thing(1037, 1);
@@ -559,7 +549,7 @@ public final class EdgesPayingTest {
 
     private static void manyIsOneLess() {
         Due.says("BOUGHT: one of a THING (MANY is 1 less)");
-        CoinsOfLast x = withCoins(1, 6, 1, 6);
+        CoinsOfLast x = Due.withCoins(1, 6, 1, 6);
         x.thing(1001, 9);
         x.thing(1001, 1);
         for (int many = 9; many > 0; many--) {
@@ -579,7 +569,7 @@ public final class EdgesPayingTest {
     private static void buyStates() {
         Due.says("BOUGHT: what was PAID less what came back. BAD; STATE: MANY is 0; NOT.");
         for (int rule = 0; rule <= 2; rule++) {
-            CoinsOfLast x = withCoins(10, 1);
+            CoinsOfLast x = Due.withCoins(10, 1);
             x.rule(1, rule);
             x.thing(1010, 0);
             x.thing(1010, 1);
@@ -601,7 +591,7 @@ public final class EdgesPayingTest {
 
     private static void likeOffByG() {
         Due.says("SIZE and WEIGHT both off by no more than g (0 .. 99).");
-        Due.range("g", 0, 99, -1, g -> withCoins(1, 1).like(0, g));
+        Due.range("g", 0, 99, -1, g -> Due.withCoins(1, 1).like(0, g));
         for (int off : new int[] {1, 2, 50, 98, 99}) {
             CoinsOfLast x = new CoinsOfLast();
             x.sort(1, 0);

@@ -1,4 +1,5 @@
 import java.io.IOException;
+import java.lang.reflect.Array;
 import java.lang.reflect.Constructor;
 import java.lang.reflect.Field;
 import java.lang.reflect.Method;
@@ -28,10 +29,11 @@ public final class LanguageTest {
     private LanguageTest() {
     }
 
-    public static void main(String[] args) throws IOException {
+    public static void main(String[] args) throws IOException, IllegalAccessException {
         constants();
         face();
         classesInside();
+        room();
         String code = withoutComments(Files.readString(SOURCE));
         words(code);
         sizes(code);
@@ -106,6 +108,38 @@ public final class LanguageTest {
             no(c.getName() + " is open or not static",
                 !Modifier.isStatic(c.getModifiers()) || Modifier.isPublic(c.getModifiers()) || Modifier.isProtected(c.getModifiers()));
             fields(c);
+        }
+    }
+
+    /** All objects of a run live in one room; a new object takes a small part of it, and no call makes another one. */
+    private static void room() throws IllegalAccessException {
+        int[] taken = new int[2];
+        measure(new CoinsOfLast(), taken);
+        no("an object takes " + taken[0] + " objects and arrays", taken[0] > 80);
+        no("an object takes " + taken[1] + " fields and elements", taken[1] > 6000);
+    }
+
+    /** Counts objects and arrays, and fields and elements; no object of the class stands in two places. */
+    private static void measure(Object o, int[] taken) throws IllegalAccessException {
+        if (o == null) {
+            return;
+        }
+        taken[0]++;
+        if (o.getClass().isArray()) {
+            taken[1] += Array.getLength(o);
+            for (int i = 0; i < Array.getLength(o) && !o.getClass().getComponentType().isPrimitive(); i++) {
+                measure(Array.get(o, i), taken);
+            }
+            return;
+        }
+        for (Field f : o.getClass().getDeclaredFields()) {
+            if (!Modifier.isStatic(f.getModifiers())) {
+                taken[1]++;
+                f.setAccessible(true);
+                if (!f.getType().isPrimitive()) {
+                    measure(f.get(o), taken);
+                }
+            }
         }
     }
 

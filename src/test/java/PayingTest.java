@@ -17,18 +17,8 @@ public final class PayingTest {
         Due.close();
     }
 
-    /** Coins of land 1: each pair a worth and how many the purse has. */
-    private static CoinsOfLast withCoins(int... pairs) {
-        CoinsOfLast x = new CoinsOfLast();
-        for (int s = 0; s < pairs.length; s += 2) {
-            x.sort(100 + pairs[s], 0);
-            x.purse(s / 2, pairs[s + 1]);
-        }
-        return x;
-    }
-
     private static void paid() {
-        CoinsOfLast x = withCoins(10, 2, 5, 3, 1, 6, 20, 1);
+        CoinsOfLast x = Due.withCoins(10, 2, 5, 3, 1, 6, 20, 1);
         x.sort(220, 0);
         x.purse(4, 6);
         Due.is("nothing", x.paid(10000, 0, -1), 0);
@@ -52,19 +42,19 @@ public final class PayingTest {
 
     private static void paidLike() {
         // 40 = 20 + 20 = 30 + 10: two coins each way; the first sort decides.
-        CoinsOfLast x = withCoins(20, 2, 30, 1, 10, 1);
+        CoinsOfLast x = Due.withCoins(20, 2, 30, 1, 10, 1);
         Due.is("fewest", x.paid(10040, 0, -1), 2);
         Due.is("with most of the first", x.paid(10040, 0, 0), 2);
         Due.is("and none of the next", x.paid(10040, 0, 1), 0);
-        CoinsOfLast y = withCoins(30, 1, 20, 2, 10, 1);
+        CoinsOfLast y = Due.withCoins(30, 1, 20, 2, 10, 1);
         Due.is("with most of the first", y.paid(10040, 0, 0), 1);
         Due.is("none of the next", y.paid(10040, 0, 1), 0);
         Due.is("the last one", y.paid(10040, 0, 2), 1);
-        CoinsOfLast z = withCoins(5, 2, 5, 6, 5, 6);
+        CoinsOfLast z = Due.withCoins(5, 2, 5, 6, 5, 6);
         Due.is("of one worth the first", z.paid(10020, 1, 0), 2);
         Due.is("then the next", z.paid(10020, 1, 1), 2);
         Due.is("then none", z.paid(10020, 1, 2), 0);
-        CoinsOfLast w = withCoins(1, 6, 2, 6, 3, 6);
+        CoinsOfLast w = Due.withCoins(1, 6, 2, 6, 3, 6);
         // 9 with the most coins: 1 * 6 and 3, or 1 * 5 and 2 * 2: both 7.
         Due.is("most", w.paid(10009, 1, -1), 7);
         Due.is("with most of the first", w.paid(10009, 1, 0), 6);
@@ -73,7 +63,7 @@ public final class PayingTest {
     }
 
     private static void paidRefused() {
-        CoinsOfLast x = withCoins(10, 1);
+        CoinsOfLast x = Due.withCoins(10, 1);
         int[][] bad = {{-1, 0, -1}, {40000, 0, -1}, {Integer.MAX_VALUE, 0, -1}, {Integer.MIN_VALUE, 0, -1},
             {10010, 2, -1}, {10010, -1, -1}, {10010, 0, -2}, {10010, 0, 1}, {10010, 0, Integer.MAX_VALUE}, {10011, 2, 0}};
         for (int[] b : bad) {
@@ -81,14 +71,14 @@ public final class PayingTest {
         }
         Due.is("the greatest amount", x.paid(39999, 0, -1), -2);
         Due.is("an amount above all coins there may be", x.paid(11921, 0, -1), -2);
-        CoinsOfLast y = withCoins(40, 6, 40, 6, 40, 6, 40, 6, 40, 6, 40, 6, 40, 6, 40, 6);
+        CoinsOfLast y = Due.withCoins(40, 6, 40, 6, 40, 6, 40, 6, 40, 6, 40, 6, 40, 6, 40, 6);
         Due.is("all coins there may be", y.paid(11920, 0, -1), 48);
         Due.is("all amounts there may be", y.amounts(1, 0), 48);
         Due.is("one more", y.paid(11921, 1, -1), -2);
     }
 
     private static void amounts() {
-        CoinsOfLast x = withCoins(1, 3, 5, 2);
+        CoinsOfLast x = Due.withCoins(1, 3, 5, 2);
         // 1..3, 5..8, 10..13
         Due.is("amounts", x.amounts(1, 0), 11);
         Due.is("least that can't", x.amounts(1, 1), 4);
@@ -98,10 +88,10 @@ public final class PayingTest {
         Due.is("land -1", x.amounts(-1, 0), -1);
         Due.is("what 2", x.amounts(1, 2), -1);
         Due.is("what -1", x.amounts(1, -1), -1);
-        CoinsOfLast y = withCoins(1, 6, 7, 6, 40, 6, 40, 6, 40, 6, 40, 6, 40, 6, 40, 6);
+        CoinsOfLast y = Due.withCoins(1, 6, 7, 6, 40, 6, 40, 6, 40, 6, 40, 6, 40, 6, 40, 6);
         Due.is("without a gap", y.amounts(1, 0), 48 + 36 * 40);
         Due.is("the first behind all", y.amounts(1, 1), 49 + 36 * 40);
-        CoinsOfLast z = withCoins(6, 2, 4, 1);
+        CoinsOfLast z = Due.withCoins(6, 2, 4, 1);
         // 4, 6, 10, 12, 16
         Due.is("amounts", z.amounts(1, 0), 5);
         Due.is("least that can't", z.amounts(1, 1), 1);
@@ -114,7 +104,7 @@ public final class PayingTest {
     }
 
     private static void spend() {
-        CoinsOfLast x = withCoins(10, 3, 3, 1);
+        CoinsOfLast x = Due.withCoins(10, 3, 3, 1);
         x.sort(250 - 10, 0);
         x.purse(2, 1);
         due(x, 1, 0, 33, 0, 0);
@@ -143,7 +133,7 @@ public final class PayingTest {
     }
 
     private static void spendLike() {
-        CoinsOfLast x = withCoins(1, 6);
+        CoinsOfLast x = Due.withCoins(1, 6);
         x.thing(1006, 101);
         x.thing(1002, 51);
         x.thing(1003, 101);
@@ -157,14 +147,14 @@ public final class PayingTest {
         x.mend(2, 4, 15);
         // 3 and 2: 20 with prices 5, of like value the least prices.
         due(x, 1, 1, 1, 20, 5);
-        CoinsOfLast y = withCoins(1, 6);
+        CoinsOfLast y = Due.withCoins(1, 6);
         y.thing(1002, 2);
         // Of no value: nothing is bought for the most, all that goes for the least left.
         due(y, 1, 0, 2, 0, 4);
         due(y, 1, 1, 6, 0, 0);
         y.thing(1001, 0);
         due(y, 1, 0, 2, 0, 4);
-        CoinsOfLast z = withCoins(1, 1);
+        CoinsOfLast z = Due.withCoins(1, 1);
         z.thing(1001, 1);
         due(z, 1, 0, 0, 0, 1);
         due(z, 1, 1, 1, 0, 0);
@@ -173,7 +163,7 @@ public final class PayingTest {
     }
 
     private static void spendAll() {
-        CoinsOfLast x = withCoins(40, 6, 40, 6, 40, 6, 40, 6, 40, 6, 40, 6, 40, 6, 40, 6);
+        CoinsOfLast x = Due.withCoins(40, 6, 40, 6, 40, 6, 40, 6, 40, 6, 40, 6, 40, 6, 40, 6);
         x.thing(1160, 999);
         x.thing(1160, 983);
         due(x, 1, 0, 0, 9 * 99 + 3 * 98, 1920);
@@ -188,7 +178,7 @@ public final class PayingTest {
     }
 
     private static void buyJust() {
-        CoinsOfLast x = withCoins(10, 2, 5, 2, 1, 6);
+        CoinsOfLast x = Due.withCoins(10, 2, 5, 2, 1, 6);
         x.thing(1015, 12);
         Due.is("buy", x.buy(0), 15);
         // With the most coins: 10 * 0 + 5 * 2 + 1 * 5 = 7 coins.
@@ -208,7 +198,7 @@ public final class PayingTest {
     }
 
     private static void buyMore() {
-        CoinsOfLast x = withCoins(10, 2, 7, 2);
+        CoinsOfLast x = Due.withCoins(10, 2, 7, 2);
         x.thing(1013, 19);
         x.thing(2001, 19);
         x.rule(1, 1);
@@ -231,7 +221,7 @@ public final class PayingTest {
     }
 
     private static void buyWithChange() {
-        CoinsOfLast x = withCoins(40, 1, 5, 5, 1, 6, 5, 6, 20, 0, 3, 0);
+        CoinsOfLast x = Due.withCoins(40, 1, 5, 5, 1, 6, 5, 6, 20, 0, 3, 0);
         x.rule(1, 2);
         x.purse(1, 0);
         x.purse(2, 0);
@@ -248,7 +238,7 @@ public final class PayingTest {
         Due.is("lost", x.led(0), 0);
         Due.is("spent", x.led(1), 2);
         // No more than 6 of a sort: then the next one comes, and what can't come is lost.
-        CoinsOfLast y = withCoins(40, 1, 9, 5, 9, 4, 2, 5);
+        CoinsOfLast y = Due.withCoins(40, 1, 9, 5, 9, 4, 2, 5);
         y.rule(1, 2);
         y.mend(0, 0, 40);
         y.purse(1, 5);
@@ -263,7 +253,7 @@ public final class PayingTest {
         Due.is("buy", y.buy(0), 2);
         Due.is("lost", y.led(0), 1);
         Due.is("spent", y.led(1), 3);
-        CoinsOfLast z = withCoins(40, 6, 9, 5, 9, 4, 2, 5);
+        CoinsOfLast z = Due.withCoins(40, 6, 9, 5, 9, 4, 2, 5);
         z.rule(1, 2);
         z.thing(1190, 9);
         z.purse(1, 0);
@@ -274,7 +264,7 @@ public final class PayingTest {
         Due.is("buy", z.buy(0), 191);
         Due.is("of the first 9", z.of(1, 4), 1);
         Due.is("lost", z.led(0), 1);
-        CoinsOfLast f = withCoins(40, 3, 9, 6, 9, 5, 2, 6, 1, 5);
+        CoinsOfLast f = Due.withCoins(40, 3, 9, 6, 9, 5, 2, 6, 1, 5);
         f.rule(1, 2);
         f.thing(2001, 9);
         f.thing(1100, 9);
@@ -287,7 +277,7 @@ public final class PayingTest {
         Due.is("of the first 9", f.of(1, 4), 2);
         Due.is("of the second 9", f.of(2, 4), 0);
         Due.is("of 2", f.of(3, 4), 1);
-        CoinsOfLast g = withCoins(40, 6, 6, 0, 6, 0, 2, 6, 1, 0);
+        CoinsOfLast g = Due.withCoins(40, 6, 6, 0, 6, 0, 2, 6, 1, 0);
         g.rule(1, 2);
         g.thing(1001, 9);
         g.purse(3, 0);
@@ -313,7 +303,7 @@ public final class PayingTest {
     }
 
     private static void buyRefused() {
-        CoinsOfLast x = withCoins(10, 1);
+        CoinsOfLast x = Due.withCoins(10, 1);
         Due.is("no thing", x.buy(0), -1);
         Due.is("thing -1", x.buy(-1), -1);
         x.thing(1020, 0);
