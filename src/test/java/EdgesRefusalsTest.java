@@ -19,6 +19,7 @@ public final class EdgesRefusalsTest {
         actKeepsAllButTheTrace();
         namedFirst();
         askingChangesNothing();
+        eachObjectItsOwn();
         Due.close();
     }
 
@@ -376,5 +377,44 @@ public final class EdgesRefusalsTest {
         refused("swap", -2, x -> x.swap(20020, 5));
         refused("kept", 29 + 5 * 60, x -> x.kept(60));
         refused("heap", 1, x -> x.heap(10013, 2, 61));
+    }
+
+    private static void eachObjectItsOwn() {
+        Due.says("All memory is the class's own.");
+        CoinsOfLast x = some();
+        CoinsOfLast twin = some();
+        long before = seen(x);
+        CoinsOfLast other = some();
+        other.mend(0, 0, 40);
+        other.undo();
+        other.sort(340, 0);
+        other.purse(0, 6);
+        other.thing(1001, 9);
+        other.buy(3);
+        other.rule(1, 2);
+        other.window(0, 99);
+        Due.law(other, 0, "7");
+        Due.law(other, 0, "7");
+        Due.law(other, 1, "7");
+        other.give(1);
+        other.image();
+        other.back();
+        other.body(3);
+        other.act(0, 1, 9);
+        other.keep(1, -1);
+        other.put(2, 5, 1);
+        other.row(3, 4, 60);
+        other.feed('3');
+        Due.is("the other one is another one", seen(other) == before ? 1 : 0, 0);
+        Due.is("what is seen of the first", seen(x), before);
+        Due.is("what is told of the first", tells(x), tells(twin));
+        CoinsOfLast later = new CoinsOfLast();
+        for (int what = 0; what < 7; what++) {
+            Due.is("a later one is new", later.count(what), 0);
+        }
+        Due.is("its shelf", later.taken(1, 0), -11);
+        Due.is("its rate", later.rate(12, 0), 1000);
+        Due.is("its image", later.back(), -5);
+        Due.is("its rule", later.of(1, 20), 0);
     }
 }
